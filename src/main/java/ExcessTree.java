@@ -7,6 +7,7 @@ public final class ExcessTree {
 
     private static final int MOST_NODES = 64;
     private static final int MOST_PLACES = 2 * MOST_NODES;
+    private static final int MOST_WEIGHT = 2147483647;
     private static final int BLOCK = 16;
     private static final int MOST_BLOCKS = MOST_PLACES / BLOCK;
     private static final int MOST_BYTES = 160;
@@ -302,7 +303,7 @@ public final class ExcessTree {
             return BAD;
         }
         long all = what == 0 ? tree.weightBelow(v) : tree.weightAbove(v);
-        return all > Integer.MAX_VALUE ? OVER : (int) all;
+        return all > MOST_WEIGHT ? OVER : (int) all;
     }
 
     public int heaviest(int v) {
@@ -605,16 +606,17 @@ public final class ExcessTree {
             return (int) ((p < 64 ? low : high) >>> (p & 63)) & 1;
         }
 
+        /** By how much the excess is more behind a place than ahead of it. */
         int stepAt(int p) {
-            return 2 * bitAt(p) - 1;
-        }
-
-        int opensAhead(int p) {
-            return Long.bitCount(low & Bits.firstOf(p)) + Long.bitCount(high & Bits.firstOf(p - 64));
+            return ((p < 64 ? low : high) >>> (p & 63) & 1) == 1 ? 1 : -1;
         }
 
         int excessAt(int p) {
-            return 2 * opensAhead(p) - p;
+            return 2 * Long.bitCount(low & Bits.firstOf(p)) + 2 * Long.bitCount(high & Bits.firstOf(p - 64)) - p;
+        }
+
+        int opensAhead(int p) {
+            return (p + excessAt(p)) / 2;
         }
 
         int opensAtOddPlaces() {
@@ -860,10 +862,15 @@ public final class ExcessTree {
             return row.opensAhead(row.bitAt(p) == 1 ? p : row.partnerOf(p));
         }
 
-        /** Where a node that comes as the i-th child begins; i may be how many there are. */
+        /** Where the i-th child begins; the ) of the node, if it has not so many. */
         int placeForChild(int v, int i) {
-            int next = childAt(v, i);
-            return next == NONE ? closeOf(v) : openOf(next);
+            int q = openOf(v) + 1;
+            int e = row.excessAt(q);
+            // Behind a child the excess is again what it was ahead of it.
+            for (int k = 0; k < i && row.bitAt(q) == 1; k++) {
+                q = row.searchOn(q, e);
+            }
+            return q;
         }
 
         // ---- nodes near a node
@@ -907,11 +914,8 @@ public final class ExcessTree {
         }
 
         int childAt(int v, int i) {
-            int next = firstChildOf(v);
-            for (int k = 0; k < i && next != NONE; k++) {
-                next = nextChildAfter(next);
-            }
-            return next;
+            int q = placeForChild(v, i);
+            return row.bitAt(q) == 1 ? row.opensAhead(q) : NONE;
         }
 
         int orderOf(int v) {
@@ -961,15 +965,11 @@ public final class ExcessTree {
         // ---- nodes far from a node
 
         int meetingOf(int u, int v) {
-            int first = Math.min(u, v);
-            int second = Math.max(u, v);
-            if (isAbove(first, second)) {
-                return first;
-            }
-            // Between the two the row comes down to the depth of the children of where they meet.
-            int p = openOf(first);
-            int depth = row.extremeIn(p, openOf(second), false) - 1;
-            return row.opensAhead(row.searchBack(p, depth));
+            int behindFirst = openOf(Math.min(u, v)) + 1;
+            int behindSecond = openOf(Math.max(u, v)) + 1;
+            // From one to the other the excess comes down to just behind the ( of where they meet.
+            int depth = row.extremeIn(behindFirst, behindSecond, false) - 1;
+            return row.opensAhead(row.searchBack(behindFirst, depth));
         }
 
         /** Of the nodes of that depth whose ( is behind a point at which the excess is not above it. */
@@ -1084,7 +1084,8 @@ public final class ExcessTree {
             long movedLow = row.takenLow(p, 2 * n);
             long movedHigh = row.takenHigh(p, 2 * n);
             System.arraycopy(weights, v, carried, 0, n);
-            removeSubtree(v);
+            closeWeights(v, n);
+            row.remove(p, 2 * n);
             int to = placeForChild(u > v ? u - n : u, i);
             int then = row.opensAhead(to);
             openWeights(then, n);

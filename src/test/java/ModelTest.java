@@ -789,9 +789,12 @@ public final class ModelTest {
     private final StringBuilder told = new StringBuilder();
     private int calls = 0;
     private boolean same = true;
+    /** In some runs every fourth number is an odd one. */
+    private final boolean wild;
 
     private ModelTest(long seed) {
         random = new Random(seed);
+        wild = seed % 16 == 0;
     }
 
     private void due(String call, long got, long want) {
@@ -805,7 +808,7 @@ public final class ModelTest {
 
     /** Mostly a number from 0 to below n, now and then one just outside or far away. */
     private int any(int n) {
-        int way = random.nextInt(40);
+        int way = random.nextInt(wild ? 4 : 40);
         if (way == 0) {
             return ODD_NUMBERS[random.nextInt(ODD_NUMBERS.length)];
         }
