@@ -685,9 +685,9 @@ public final class ExcessTree {
             int e = excessAt(p);
             int q = p;
             while (q > 0) {
-                // Ahead of place q - 1 the block that it ends has been seen from its last point on.
                 q--;
                 e -= stepAt(q);
+                // A summary tells of the points behind its block's places: q is the last of them.
                 while (q >= BLOCK && q % BLOCK == 0 && !reaches(q / BLOCK - 1, d - e + gains[q / BLOCK - 1])) {
                     q -= BLOCK;
                     e -= gains[q / BLOCK];
@@ -812,7 +812,7 @@ public final class ExcessTree {
 
         /** Blocks ahead of a place that changed have kept their bits and so their summaries. */
         void summarise(int from) {
-            for (int b = Math.max(from, 0) / BLOCK; b < MOST_BLOCKS; b++) {
+            for (int b = from / BLOCK; b < MOST_BLOCKS; b++) {
                 summariseBlock(b);
             }
         }

@@ -1033,24 +1033,19 @@ public final class ModelTest {
         due("count(" + what + ")", x.count(what), m.count(what));
     }
 
-    /** All that can be seen of the tree, so that no change goes by unseen. */
-    private void wholeTree() {
+    /** The tree once more, as far as the 512 calls of an object go. */
+    private void treeAtTheEnd() {
         String r = m.row();
         due("size(3)", x.size(3), r.length());
-        for (int p = 0; p < r.length(); p++) {
-            due("bit(" + p + ")", x.bit(p), m.bit(p));
+        while (calls < CALLS - 4) {
+            int p = random.nextInt(r.length() + 1);
+            int v = random.nextInt(r.length() / 2 + 1);
+            int what = random.nextInt(14);
+            int b = random.nextInt(8);
             due("match(" + p + ")", x.match(p), m.match(p));
-        }
-        for (int v = 0; v < r.length() / 2; v++) {
             due("weight(" + v + ")", x.weight(v), m.weight(v));
-            for (int what = 0; what < 14; what++) {
-                due("node(" + v + ", " + what + ")", x.node(v, what), m.node(v, what));
-            }
-        }
-        for (int b = 0; b < m.size(4); b++) {
-            for (int what = 0; what < 3; what++) {
-                due("block(" + b + ", " + what + ")", x.block(b, what), m.block(b, what));
-            }
+            due("node(" + v + ", " + what + ")", x.node(v, what), m.node(v, what));
+            due("block(" + b + ", " + what % 3 + ")", x.block(b, what % 3), m.block(b, what % 3));
         }
     }
 
@@ -1072,9 +1067,7 @@ public final class ModelTest {
                 default -> edits();
             }
         }
-        if (random.nextInt(8) == 0) {
-            wholeTree();
-        }
+        treeAtTheEnd();
         return same;
     }
 

@@ -207,6 +207,14 @@ public final class PromiseTest {
         x.feed(128);
         x.plant(1);
         due(5, "fault() of the latest text()", x.fault(), 1);
+        feedAll(x, "(12345");
+        x.end(5);
+        due(4, "a figure behind the end", x.text(), -15);
+        due(5, "its fault", x.fault(), 2);
+        due(4, "160 bytes, the last a figure", tell(x, " ".repeat(157) + "(99"), -170);
+        due(5, "its fault", x.fault(), 2);
+        due(4, "160 bytes", tell(x, " ".repeat(155) + "(99 )"), 1);
+        is(4, "160 bytes", x, "(99)");
     }
 
     private static void sizesAndBits() {
@@ -452,6 +460,11 @@ public final class PromiseTest {
         due(28, "sum of many", x.sum(0, 0), OVER);
         due(28, "sum of two", x.sum(1, 1), OVER);
         due(28, "sum of one", x.sum(0, 1), MOST);
+        ExcessTree chain = numbered(chain(64));
+        due(28, "sum(63, 1) of a chain", chain.sum(63, 1), 66016);
+        due(28, "sum(0, 0) of a chain", chain.sum(0, 0), 66016);
+        due(28, "sum(62, 1) of a chain", chain.sum(62, 1), 64953);
+        due(29, "heaviest(0) of a chain", chain.heaviest(0), 63);
     }
 
     private static void leavesComeAndGo() {
@@ -508,6 +521,12 @@ public final class PromiseTest {
         ExcessTree chain = told(chain(64));
         due(33, "fell(1) of a chain", chain.fell(1), 63);
         is(33, "fell(1) of a chain", chain, "(0)");
+        ExcessTree half = told("(" + chain(32) + "()".repeat(31) + ")");
+        due(33, "fell of 32 of 64", half.fell(1), 32);
+        due(33, "count(3) then", half.count(3), 31);
+        row(33, "size then", half::size, 32, 31, 1, 64, 4);
+        due(33, "select(32, 0) then", half.select(32, 0), NONE);
+        is(33, "fell of 32 of 64", half, "(0" + "(0)".repeat(31) + ")");
     }
 
     private static void wrapsAndMelts() {
@@ -574,13 +593,86 @@ public final class PromiseTest {
         due(36, "graft(0, 7, 0)", x.graft(0, 7, 0), BAD);
         due(36, "graft(-1, 0, 0)", x.graft(-1, 0, 0), BAD);
         due(36, "graft(1, -1, 0)", x.graft(1, -1, 0), BAD);
+        due(36, "graft(1, 3, 3): one too many", x.graft(1, 3, 3), BAD);
         is(36, "graft refused", x, "(1(5)(6)(2(3)(4))(7))");
+        due(36, "graft(3, 6, 0) to the one right behind it", x.graft(3, 6, 0), 4);
+        is(36, "graft(3, 6, 0)", x, "(1(5)(6)(7(2(3)(4))))");
+        due(36, "graft(4, 2, 0) to the one ahead", x.graft(4, 2, 0), 3);
+        is(36, "graft(4, 2, 0)", x, "(1(5)(6(2(3)(4)))(7))");
         ExcessTree long1 = told("(" + chain(40) + "()(" + "()".repeat(21) + "))");
         due(36, "graft of 40 NODES", long1.graft(1, 42, 21), 24);
         due(36, "size(2)", long1.size(2), 41);
         due(36, "size(0)", long1.size(0), 64);
         due(36, "back again", long1.graft(24, 0, 0), 1);
         due(36, "node(41, 3)", long1.node(41, 3), 0);
+    }
+
+    /** A tree of that shape whose weights are 1000 and the number: each is four figures long. */
+    private static ExcessTree numbered(String shape) {
+        ExcessTree x = told(shape);
+        int nodes = x.size(0);
+        for (int v = 0; v < nodes; v++) {
+            x.set(v, 1000 + v);
+        }
+        return x;
+    }
+
+    /** Edits at nodes of large trees, beside the same edits of a text; an object each, for its 512 calls. */
+    private static void editsOfLargeTrees() {
+        for (String shape : new String[] {chain(60), star(59), "(" + chain(31) + star(27) + ")", ROW}) {
+            for (int v = 0; v < shape.length() / 2; v += 1 + v % 3) {
+                editsAt(shape, v);
+            }
+        }
+    }
+
+    private static void editsAt(String shape, int v) {
+        ExcessTree x = numbered(shape);
+        int nodes = x.size(0);
+        int children = x.node(v, 8);
+        int below = x.node(v, 9);
+        String before = textOf(x);
+        int open = before.indexOf("(" + (1000 + v));
+        int close = closeIn(before, open);
+        String ahead = before.substring(0, open);
+        String own = before.substring(open, open + 5);
+        String inside = before.substring(open + 5, close);
+        String behind = before.substring(close + 1);
+        String at = " at " + v + " of " + shape;
+
+        x = numbered(shape);
+        due(31, "first leaf" + at, x.leaf(v, 0, 2000), v + 1);
+        is(31, "first leaf" + at, x, ahead + own + "(2000)" + inside + ")" + behind);
+        x = numbered(shape);
+        due(31, "last leaf" + at, x.leaf(v, children, 2000), v + below);
+        is(31, "last leaf" + at, x, ahead + own + inside + "(2000))" + behind);
+        x = numbered(shape);
+        due(34, "wrap" + at, x.wrap(v, 0, children, 2000), v + 1);
+        is(34, "wrap" + at, x, ahead + own + "(2000" + inside + "))" + behind);
+        if (v == 0) {
+            return;
+        }
+        x = numbered(shape);
+        due(35, "melt" + at, x.melt(v), nodes - 1);
+        is(35, "melt" + at, x, ahead + inside + behind);
+        x = numbered(shape);
+        due(33, "fell" + at, x.fell(v), below);
+        is(33, "fell" + at, x, ahead + behind);
+        x = numbered(shape);
+        String rest = ahead + behind;
+        due(36, "graft" + at, x.graft(v, 0, 0), 1);
+        is(36, "graft" + at, x, rest.substring(0, 5) + own + inside + ")" + rest.substring(5));
+    }
+
+    private static int closeIn(String text, int open) {
+        int depth = 0;
+        for (int i = open; i < text.length(); i++) {
+            depth += text.charAt(i) == '(' ? 1 : text.charAt(i) == ')' ? -1 : 0;
+            if (depth == 0) {
+                return i;
+            }
+        }
+        return -1;
     }
 
     private static void seeds() {
@@ -783,6 +875,8 @@ public final class PromiseTest {
         due(44, "stow(2, 2, 60)", x.stow(2, 2, 60), 6);
         due(44, "look(2, 0)", x.look(2, 0), 0b1011L << 60);
         due(44, "look(2, 1)", x.look(2, 1), 0);
+        due(44, "stow(3, 2, 0) on nothing", x.stow(3, 2, 0), 0);
+        due(45, "torn()", x.torn(), 1);
         x.fell(0);
         due(44, "stow of none", x.stow(3, 0, 0), 0);
         due(45, "torn() of none", x.torn(), 0);
@@ -833,6 +927,7 @@ public final class PromiseTest {
         subtreesGo();
         wrapsAndMelts();
         grafts();
+        editsOfLargeTrees();
         seeds();
         images();
         sheets();
