@@ -868,7 +868,7 @@ public final class ModelTest {
         if (random.nextInt(6) == 0) {
             t.deleteCharAt(random.nextInt(t.length()));
         }
-        for (int i = 0; i < t.length() && calls < CALLS - 3; i++) {
+        for (int i = 0; i < t.length() && calls < CALLS - 12; i++) {
             feed(t.charAt(i));
         }
     }
@@ -876,13 +876,13 @@ public final class ModelTest {
     private void feedMany() {
         int n = 60 + random.nextInt(8);
         boolean chain = random.nextBoolean();
-        for (int i = 0; i < n && calls < CALLS - 3; i++) {
+        for (int i = 0; i < n && calls < CALLS - 12; i++) {
             feed('(');
             if (!chain && i > 0) {
                 feed(')');
             }
         }
-        for (int i = 0; i < (chain ? n : 1) && calls < CALLS - 3; i++) {
+        for (int i = 0; i < (chain ? n : 1) && calls < CALLS - 12; i++) {
             feed(')');
         }
     }
