@@ -748,6 +748,8 @@ public final class EdgeTest {
         list(EdgeTest::ten, "least(20, 20, ..)", (x, what) -> x.least(20, 20, what), 0, 0, 20, 1, 0);
         list(EdgeTest::ten, "least(0, 20, ..)", (x, what) -> x.least(0, 20, what), 0, 0, 0, 2, 5);
         list(EdgeTest::ten, "least(13, 14, ..)", (x, what) -> x.least(13, 14, what), 0, 4, 14, 1, 5);
+        list(told("(()())"), "least(1, 2, ..), not 3", (x, what) -> x.least(1, 2, what), 0, 1, 1, 1, 2);
+        list(told("(()())"), "least(2, 3, ..), not 1", (x, what) -> x.least(2, 3, what), 0, 1, 3, 1, 2);
         list(EdgeTest::full, "least(0, 128, ..) of 64", (x, what) -> x.least(0, 128, what), 0, 0, 0, 2, 2);
         list(EdgeTest::full, "least(1, 127, ..) of 64", (x, what) -> x.least(1, 127, what), 0, 1, 1, 64, 2);
         list(told(chain(64)), "least(0, 128, ..) of a chain", (x, what) -> x.least(0, 128, what), 0, 0, 0, 2, 64);
@@ -927,6 +929,14 @@ public final class EdgeTest {
         answers(two, "sum of MOST and 1", x -> x.set(1, MOST) + x.sum(0, 0), OVER);
         answers(two, "sum above, MOST and 0", x -> x.set(1, MOST) + x.set(0, 0) - 1 + x.sum(1, 1), MOST);
         answers(two, "sum above, MOST and 1", x -> x.set(1, MOST) + x.sum(1, 1), OVER);
+        answers(x -> {
+            tell(x, chain(64));
+            x.set(0, MOST);
+        }, "sum(63, 1) of a chain, the root too", x -> x.sum(63, 1), MOST);
+        answers(x -> {
+            tell(x, chain(64));
+            x.set(63, MOST);
+        }, "sum(0, 0) of a chain, the last too", x -> x.sum(0, 0), MOST);
         answers(two, "sum of MOST and MOST", x -> x.set(1, MOST) + x.set(0, MOST) - 1 + x.sum(0, 0), OVER);
         ExcessTree heavy = made(EdgeTest::full);
         for (int v = 0; v < 64; v++) {
@@ -959,7 +969,25 @@ public final class EdgeTest {
         ExcessTree x = made(setup);
         due(call, c.on(x), want);
         same("the tree behind " + call, treeOf(x), summarised(tree));
+        nothingBehind(x, call, tree);
         same("all else behind " + call, allElse(x), allElse(made(setup)));
+    }
+
+    /** No sign is found or counted behind the row, where an edit could have left some. */
+    private static void nothingBehind(ExcessTree x, String call, String tree) {
+        String row = tree.replaceAll("[0-9]", "");
+        int nodes = row.length() / 2;
+        int pairs = (row.length() - row.replace("()", "").length()) / 2;
+        int odd = 0;
+        for (int p = 1; p < row.length(); p += 2) {
+            odd += row.charAt(p) == '(' ? 1 : 0;
+        }
+        due("size(0) behind " + call, x.size(0), nodes);
+        due("size(1) behind " + call, x.size(1), pairs);
+        due("count(3) behind " + call, x.count(3), odd);
+        due("select(" + nodes + ", 0) behind " + call, x.select(nodes, 0), NONE);
+        due("select(" + nodes + ", 1) behind " + call, x.select(nodes, 1), NONE);
+        due("select(" + pairs + ", 2) behind " + call, x.select(pairs, 2), NONE);
     }
 
     /** A tree as treeOf tells it, with the summaries counted from its letters. */
@@ -1140,96 +1168,102 @@ public final class EdgeTest {
         answers(EdgeTest::ten, "graft(1, 4, 0): the one right behind is not below", x -> x.graft(1, 4, 0), 2);
     }
 
-    /** The root's children as texts; weights are the numbers that the nodes have at first. */
-    private static String rooted(List<String> children) {
-        return "(0" + String.join("", children) + ")";
+    /** A node's children as texts; it is the root, or the only child of one. Weights are numbers at first. */
+    private static String under(int parent, List<String> children) {
+        return (parent == 0 ? "(0" : "(0(1") + String.join("", children) + ")".repeat(parent + 1);
     }
 
-    private static List<String> childrenOfSizes(int... sizes) {
+    private static int nodesIn(List<String> children) {
+        return String.join("", children).replaceAll("[^(]", "").length();
+    }
+
+    /** A chain of so many nodes, or, below 0, a star of so many. */
+    private static List<String> childrenOfSizes(int parent, int... sizes) {
         List<String> children = new ArrayList<>();
-        int v = 1;
+        int v = parent + 1;
         for (int size : sizes) {
+            String shape = size < 0 ? star(-size - 1) : chain(size);
             StringBuilder s = new StringBuilder();
-            for (int i = 0; i < size; i++) {
-                s.append('(').append(v++);
+            for (char c : shape.toCharArray()) {
+                s.append(c == '(' ? "(" + v++ : ")");
             }
-            children.add(s + ")".repeat(size));
+            children.add(s.toString());
         }
         return children;
     }
 
-    private static Setup rootWith(List<String> children) {
-        String text = rooted(children);
-        return x -> {
-            tell(x, text.replaceAll("[0-9]", ""));
-            int nodes = x.size(0);
-            for (int v = 0; v < nodes; v++) {
-                x.set(v, v);
-            }
-        };
-    }
-
-    private static int nodesIn(List<String> children) {
-        return rooted(children).replaceAll("[^(]", "").length();
-    }
-
-    /** An edit of the root's children: the same done to their texts. */
-    private static void editsOfChildren(List<String> before, String call, Call c, long want, List<String> after) {
-        ExcessTree x = made(rootWith(before));
-        due(call + " of " + before, c.on(x), want);
-        same("the tree behind " + call + " of " + before, treeOf(x), summarised(rooted(after)));
+    /** An edit of a node's children: the same done to their texts. */
+    private static void editsOfChildren(int parent, List<String> before, String call, Call c, long want, List<String> after) {
+        ExcessTree x = new ExcessTree();
+        tell(x, under(parent, before).replaceAll("[0-9]", ""));
+        int nodes = x.size(0);
+        for (int v = 0; v < nodes; v++) {
+            x.set(v, v);
+        }
+        String told = call + " of " + under(parent, before);
+        due(told, c.on(x), want);
+        same("the tree behind " + told, treeOf(x), summarised(under(parent, after)));
+        nothingBehind(x, told, under(parent, after));
     }
 
     private static void editsEverywhere() {
         of("edits: what a NODE's number is then");
-        int[] ones = new int[62];
+        int[] ones = new int[61];
         Arrays.fill(ones, 1);
-        editsOf(childrenOfSizes(ones), 62);
-        editsOf(childrenOfSizes(31, 31), 2);
-        editsOf(childrenOfSizes(32, 30), 2);
-        editsOf(childrenOfSizes(30, 1, 1, 30), 4);
-        editsOf(childrenOfSizes(33, 29), 2);
-        editsOf(childrenOfSizes(1, 60, 1), 3);
-        editsOf(childrenOfSizes(7, 8, 9, 16, 15), 5);
+        for (int parent = 0; parent < 2; parent++) {
+            editsOf(parent, childrenOfSizes(parent, ones));
+            editsOf(parent, childrenOfSizes(parent, 31, 30));
+            editsOf(parent, childrenOfSizes(parent, 32, 29));
+            editsOf(parent, childrenOfSizes(parent, -31, -30));
+            editsOf(parent, childrenOfSizes(parent, -31, 30));
+            editsOf(parent, childrenOfSizes(parent, 29, -32));
+            editsOf(parent, childrenOfSizes(parent, 29, 1, -31));
+            editsOf(parent, childrenOfSizes(parent, -7, 31, -9, -7));
+            editsOf(parent, childrenOfSizes(parent, 33, -28));
+            editsOf(parent, childrenOfSizes(parent, 1, -59, 1));
+            editsOf(parent, childrenOfSizes(parent, -45, 16));
+            editsOf(parent, childrenOfSizes(parent, 7, 8, 9, 16, -15));
+        }
     }
 
-    private static void editsOf(List<String> children, int n) {
+    private static void editsOf(int parent, List<String> children) {
+        int n = children.size();
         for (int i = 0; i <= n; i++) {
             int at = i;
-            int v = nodesIn(children.subList(0, i));
+            int v = parent + 1 + nodesIn(children.subList(0, i));
             List<String> more = new ArrayList<>(children);
             more.add(i, "(77)");
-            editsOfChildren(children, "leaf(0, " + i + ", 77)", x -> x.leaf(0, at, 77), v, more);
+            editsOfChildren(parent, children, "leaf(" + parent + ", " + i + ", 77)", x -> x.leaf(parent, at, 77), v, more);
             for (int k : new int[] {0, 1, n / 2, n - i}) {
                 if (i + k <= n) {
                     List<String> fewer = new ArrayList<>(children.subList(0, i));
                     fewer.add("(77" + String.join("", children.subList(i, i + k)) + ")");
                     fewer.addAll(children.subList(i + k, n));
-                    editsOfChildren(children, "wrap(0, " + i + ", " + k + ", 77)", x -> x.wrap(0, at, k, 77), v, fewer);
+                    editsOfChildren(parent, children, "wrap(" + parent + ", " + i + ", " + k + ", 77)",
+                            x -> x.wrap(parent, at, k, 77), v, fewer);
                 }
             }
             if (i < n) {
-                goings(children, i, v);
+                goings(parent, children, i, v);
             }
         }
     }
 
-    private static void goings(List<String> children, int i, int v) {
+    private static void goings(int parent, List<String> children, int i, int v) {
         int n = children.size();
-        int nodes = nodesIn(children);
+        int nodes = parent + 1 + nodesIn(children);
         String child = children.get(i);
-        int below = child.replaceAll("[^(]", "").length();
         List<String> rest = new ArrayList<>(children);
         rest.remove(i);
-        editsOfChildren(children, "fell(" + v + ")", x -> x.fell(v), below, rest);
+        editsOfChildren(parent, children, "fell(" + v + ")", x -> x.fell(v), nodesIn(List.of(child)), rest);
         List<String> melted = new ArrayList<>(rest);
         melted.add(i, child.substring(("(" + v).length(), child.length() - 1));
-        editsOfChildren(children, "melt(" + v + ")", x -> x.melt(v), nodes - 1, melted);
+        editsOfChildren(parent, children, "melt(" + v + ")", x -> x.melt(v), nodes - 1, melted);
         for (int to : new int[] {0, i / 2, i, (i + n) / 2, n - 1}) {
             List<String> moved = new ArrayList<>(rest);
             moved.add(to, child);
-            editsOfChildren(children, "graft(" + v + ", 0, " + to + ")", x -> x.graft(v, 0, to),
-                    nodesIn(rest.subList(0, to)), moved);
+            editsOfChildren(parent, children, "graft(" + v + ", " + parent + ", " + to + ")", x -> x.graft(v, parent, to),
+                    parent + 1 + nodesIn(rest.subList(0, to)), moved);
         }
     }
 
