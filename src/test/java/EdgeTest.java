@@ -783,6 +783,8 @@ public final class EdgeTest {
         keeps(EdgeTest::ten, "node(1, 7)", x -> x.node(1, 7), NONE);
         keeps(EdgeTest::ten, "node(4, 7)", x -> x.node(4, 7), 1);
         list(EdgeTest::full, "node(63, ..) of 64", (x, what) -> x.node(63, what), 3, 0, NONE, NONE, NONE, 62);
+        list(told("(" + star(62) + ")"), "node(0, ..) of 64, ( at PLACE 64", (x, what) -> x.node(0, what), 3,
+                NONE, 1, 1, NONE, NONE);
 
         of("13 which child of its parent it is (0 on; the root 0). BAD.");
         list(EdgeTest::ten, "node(.., 13)", (x, v) -> x.node(v, 13), 0, 0, 0, 0, 1, 1, 2, 0, 0, 0, 1);
@@ -864,6 +866,8 @@ public final class EdgeTest {
         list(EdgeTest::ten, "level(0, ..)", (x, what) -> x.level(0, what), 0, 0, 0, 1);
         list(EdgeTest::ten, "level(4, ..)", (x, what) -> x.level(4, what), 0, 8, 8, 1);
         list(EdgeTest::full, "level(1, ..) of 64", (x, what) -> x.level(1, what), 0, 1, 63, 63);
+        list(told("(" + star(62) + ")"), "level(0, ..) of 64, ( at PLACE 64", (x, what) -> x.level(0, what), 0, 0, 0, 1);
+        list(told("(" + star(62) + ")"), "level(2, ..) of 64, ( at PLACE 64", (x, what) -> x.level(2, what), 0, 2, 63, 62);
         list(told(chain(64)), "level(63, ..) of a chain", (x, what) -> x.level(63, what), 0, 63, 63, 1);
 
         of("The next NODE by number with the DEPTH of a NODE (what 0), the one before (1). BAD; NONE.");
